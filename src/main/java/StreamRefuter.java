@@ -771,10 +771,7 @@ public final class StreamRefuter {
                     return -step;
                 }
             }
-            // What the notes could not hold, the record could not either.
-            if (notes.isOverfull()) {
-                return FULL;
-            }
+            // Notes that had no room are lost, but with them the record has no room, either.
             int lines = write(into);
             if (into.isOverfull()) {
                 return FULL;

@@ -1,0 +1,78 @@
+/**
+ * Promise 12, FULL: records of just 2000 tokens, and of one more.
+ *
+ * <p>Many clauses with the pivot 1 are spared, each by all clauses with -1; for nearly each pair
+ * the variables 12 .. 16 make a chain of reasons up to a conflict. Then one clause of the chain is
+ * deleted, so that the refuting needs all that was spared. Copies of a clause of the formula are
+ * never needed, and lengthen the first dropping line by one token each.
+ */
+public final class FullTest {
+    public static void main(String[] args) {
+        Check check = new Check("FullTest");
+        int[] due = {38, 38, StreamRefuter.FULL, StreamRefuter.FULL};
+        int[] tokens = {1996, 2000, 0, 0};
+        for (int copies = 0; copies < due.length; copies++) {
+            StreamRefuter x = Check.with(formula(copies), stream());
+            check.same("forward()", x.forward(), 0);
+            check.same("refute() with " + copies + " copies", x.refute(), due[copies]);
+            check.same("tokens() with " + copies + " copies", x.tokens(), tokens[copies]);
+            check.same("judge() with " + copies + " copies", x.judge() > 0, tokens[copies] > 0);
+            check.same("marked(1)", x.marked(1), tokens[copies] > 0);
+            check.same("way(1)", x.way(1), tokens[copies] > 0 ? 2 : 0);
+        }
+        keepsTheOld(check);
+        theLastToken(check);
+        check.finish();
+    }
+
+    private static void keepsTheOld(Check check) {
+        StreamRefuter x = Check.with(formula(2), stream());
+        Check.put(x, "5 0 1 0");
+        x.record();
+        check.same("refute()", x.refute(), StreamRefuter.FULL);
+        check.same("the record stays", Check.record(x), "5 0 1 0");
+    }
+
+    private static void theLastToken(Check check) {
+        StreamRefuter x = Check.with(formula(1), stream());
+        x.refute();
+        check.same("token(1998)", x.token(1998) > 0, true);
+        check.same("token(2000)", x.token(2000), 0);
+        check.same("alter(2000, 1)", x.alter(2000, 1), false);
+        check.same("alter(1999, 1)", x.alter(1999, 1), true);
+        check.same("token(1999)", x.token(1999), 1);
+        check.same("judge()", x.judge() < 0, true);
+    }
+
+    private static String formula(int copies) {
+        StringBuilder row = new StringBuilder("p cnf 16 " + (23 + copies));
+        for (int sign = -5; sign <= 5; sign += 10) {
+            for (int z = 6; z <= 11; z++) {
+                // The first one names the end of the chain, which makes its groups short.
+                String end = sign < 0 && z == 6 ? " -16 " : " ";
+                row.append(" -1 -12").append(end).append(sign).append(" ").append(-z).append(" 0");
+            }
+        }
+        row.append(" -6 -7 -8 -9 -10 -11 0 6 7 8 9 10 11 0");
+        row.append(" -12 13 0 -12 -13 14 0 -12 -14 15 0 -12 -15 16 0 -12 -16 2 0");
+        row.append(" 12 5 0 12 -5 0 -2 5 0 -2 -5 0");
+        return row.append(" 12 5 0".repeat(copies)).toString();
+    }
+
+    private static String stream() {
+        StringBuilder row = new StringBuilder();
+        int split = 3;
+        for (String signs : new String[] {"-3 -4 ", "-3 4 ", "3 -4 ", "3 4 "}) {
+            for (int z = 6; z <= 11; z++) {
+                String clause = "1 2 " + signs + z + " ";
+                if (split > 0) {
+                    row.append(clause).append("11 0 ").append(clause).append("-11 0 ");
+                    split--;
+                }
+                row.append(clause).append("0 ");
+            }
+        }
+        row.append("d -12 -16 2 0 1 2 -3 -4 0 1 2 -3 0 1 2 3 -4 0 1 2 0 ");
+        return row.append("-1 -12 -5 0 -1 -12 0 12 0").toString();
+    }
+}
