@@ -268,8 +268,6 @@ public final class StreamRefuter {
 
         void restart() {
             next = 0;
-            place = 0;
-            value = ENDED;
         }
 
         /** Takes the next number: value becomes it, or NO_NUMBER, or ENDED. */
@@ -635,8 +633,6 @@ public final class StreamRefuter {
         }
 
         private boolean goOn(long marked) {
-            conflict = 0;
-            needed = 0;
             while (taken < reasons.length) {
                 int c = pickReady(marked);
                 if (c == 0) {

@@ -9,8 +9,8 @@ import java.util.concurrent.Callable;
 public final class ModelTest {
     private final Check check = new Check("ModelTest");
     private final Random random;
-    private StreamRefuter program = new StreamRefuter();
-    private PlainModel model = new PlainModel();
+    private final StreamRefuter program = new StreamRefuter();
+    private final PlainModel model = new PlainModel();
     private int variables = 1;
     private final List<List<Integer>> seen = new ArrayList<>();
     private final List<List<Integer>> merges = new ArrayList<>();
@@ -24,11 +24,14 @@ public final class ModelTest {
 
     /** Runs as many rounds as the argument says, or some that take seconds. */
     public static void main(String[] args) {
-        int rounds = args.length > 0 ? Integer.parseInt(args[0]) : 1500;
+        int rounds = args.length > 0 ? Integer.parseInt(args[0]) : 500;
         int wrong = 0;
         for (int seed = 1; seed <= rounds && wrong < 3; seed++) {
             ModelTest test = new ModelTest(seed);
-            test.round(seed % 3 == 0);
+            // More rounds than one on an object: nothing may be left of the earlier ones.
+            for (int i = 0; i < 4; i++) {
+                test.round((seed + i) % 3 == 0);
+            }
             counts[7] += test.model.bases;
             if (test.check.wrong() > 0) {
                 System.out.println("in the round with seed " + seed);
@@ -78,6 +81,7 @@ public final class ModelTest {
 
     private void round(boolean wild) {
         both("end()", () -> program.end(), () -> model.end());
+        both("tokens()", () -> program.tokens(), () -> model.tokens());
         if (wild) {
             readFormula(below(2) == 0);
         } else {
