@@ -14,6 +14,7 @@ public final class ModelTest {
     private int variables = 1;
     private final List<List<Integer>> seen = new ArrayList<>();
     private final List<List<Integer>> merges = new ArrayList<>();
+    private final List<List<Integer>> shadowed = new ArrayList<>();
     private int fresh = 0;
     // How often what is rare has come about: a test that never meets it proves nothing.
     private static int[] counts = new int[8];
@@ -87,6 +88,9 @@ public final class ModelTest {
         } else {
             readTightFormula();
         }
+        both("forward() without a stream", () -> program.forward(), () -> model.forward());
+        both("refute() without a stream", () -> program.refute(), () -> model.refute());
+        both("way(1) without a stream", () -> program.way(1), () -> model.way(1));
         if (below(4) == 0) {
             spoilReading();
         }
@@ -169,6 +173,7 @@ public final class ModelTest {
         for (int i = below(4) == 0 ? below(6) : 0; i > 0; i--) {
             seen.add(below(seen.size() + 1), clause(4));
         }
+        shadow();
         Collections.shuffle(seen, random);
         StringBuilder row = new StringBuilder("p cnf " + variables + " " + seen.size() + "\n");
         for (List<Integer> clause : seen) {
@@ -177,6 +182,51 @@ public final class ModelTest {
         put(row.toString());
         both("formula() of " + row, () -> program.formula(), () -> model.formula());
         fresh = own;
+    }
+
+    /**
+     * Some clauses get pairs beside them, each with their last literal and another one: when the
+     * last one is cut off and false, several of the others become true, each for a reason of its
+     * own.
+     */
+    private void shadow() {
+        shadowed.clear();
+        for (List<Integer> clause : new ArrayList<>(seen)) {
+            if (clause.size() > 2 && below(3) == 0 && shadowed.size() < 3) {
+                shadowed.add(clause);
+                for (int other : clause.subList(0, clause.size() - 1)) {
+                    if (seen.size() < 40) {
+                        seen.add(new ArrayList<>(List.of(clause.get(clause.size() - 1), other)));
+                    }
+                }
+            }
+        }
+    }
+
+    /** Cuts the last literal off each clause that has pairs, and deletes it and them. */
+    private void cutShadowed(StringBuilder row) {
+        for (List<Integer> clause : shadowed) {
+            fresh++;
+            if (fresh > variables) {
+                return;
+            }
+            int last = clause.get(clause.size() - 1);
+            List<Integer> others = new ArrayList<>(clause.subList(0, clause.size() - 1));
+            Collections.shuffle(others, random);
+            others.add(0, fresh);
+            row.append(words(others));
+            if (below(2) == 0) {
+                List<Integer> copy = new ArrayList<>(others);
+                Collections.shuffle(copy, random);
+                row.append(words(copy)).append("d ").append(words(others));
+            }
+            row.append(words(List.of(-fresh, last))).append("d ").append(words(clause));
+            for (int other : clause.subList(0, clause.size() - 1)) {
+                if (below(8) != 0) {
+                    row.append("d ").append(words(List.of(last, other)));
+                }
+            }
+        }
     }
 
     private List<Integer> longer(List<Integer> clause, int literal) {
@@ -188,6 +238,7 @@ public final class ModelTest {
     /** Cuts clauses by fresh variables and deletes them, and then merges what was split. */
     private void splitAndMerge() {
         StringBuilder row = new StringBuilder();
+        cutShadowed(row);
         int cuts = below(7);
         for (int i = 0; i < cuts; i++) {
             List<Integer> clause = seen.get(below(seen.size()));
@@ -202,11 +253,25 @@ public final class ModelTest {
             List<Integer> tail = new ArrayList<>(clause.subList(at, clause.size()));
             // What both parts have makes the second one's group longer, or turns it into a base.
             if (at > 0 && below(2) == 0) {
-                tail.add(head.get(0));
+                tail.add(head.get(below(at)));
+            }
+            // A longer first part is as right, and may have several literals that become true.
+            if (head.size() < 5 && below(3) == 0) {
+                int more = 1 + below(variables);
+                if (more != x && !head.contains(more) && !head.contains(-more)) {
+                    head.add(below(2) == 0 ? more : -more);
+                }
             }
             head.add(0, sign * x);
             tail.add(0, -sign * x);
-            row.append(words(head)).append(words(tail));
+            row.append(words(head));
+            if (below(3) == 0) {
+                // A copy whose first literal is another one takes its place.
+                List<Integer> copy = new ArrayList<>(head);
+                Collections.shuffle(copy, random);
+                row.append(words(copy)).append("d ").append(words(head));
+            }
+            row.append(words(tail));
             if (below(4) == 0) {
                 row.append(words(tail));
             }

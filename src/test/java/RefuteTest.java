@@ -9,6 +9,7 @@ public final class RefuteTest {
         written(check);
         refused(check);
         aBase(check);
+        theFirstTrueOne(check);
         theLastNumber(check);
         again(check);
         outside(check);
@@ -76,14 +77,9 @@ public final class RefuteTest {
 
     /** Clause 15 is spared by what clause 1 makes true, before any candidate. */
     private static void aBase(Check check) {
-        StringBuilder formula = new StringBuilder("p cnf 5 13 1 2 0");
-        for (String two : new String[] {"1 -2", "-1 2", "-1 -2"}) {
-            for (String more : new String[] {"4 5", "4 -5", "-4 5", "-4 -5"}) {
-                formula.append(" ").append(two).append(" ").append(more).append(" 0");
-            }
-        }
-        StreamRefuter x = Check.with(formula.toString(),
-                "-3 1 0 3 2 0 d 2 1 0 1 -2 4 0 1 0 -1 2 4 0 -1 2 0 -1 -2 4 0");
+        String formula = formulaOfThirteen();
+        String rest = "1 -2 4 0 1 0 -1 2 4 0 -1 2 0 -1 -2 4 0";
+        StreamRefuter x = Check.with(formula, "-3 1 0 3 2 0 d 2 1 0 " + rest);
         check.same("end()", x.end(), 8);
         check.same("forward()", x.forward(), 0);
         check.same("refute()", x.refute(), 8);
@@ -93,6 +89,49 @@ public final class RefuteTest {
                 + "20 -1 -2 4 0 10 11 0 20 d 10 11 0 21 0 17 19 20 12 13 0");
         check.same("the ways", Check.ways(x), "22011111");
         check.same("judge()", x.judge(), 14);
+        // The candidate has the opposite of the pivot as its second literal.
+        StreamRefuter y = Check.with(formula, "-3 1 0 1 -3 0 d -3 1 0 3 2 0 d 2 1 0 " + rest);
+        check.same("refute()", y.refute(), 9);
+        check.same("the record", Check.record(y), "14 -3 1 0 0 15 1 -3 0 14 0 15 d 14 0 "
+                + "16 3 2 0 1 -15 0 16 d 1 0 17 1 -2 4 0 2 3 0 17 d 2 3 0 "
+                + "18 1 0 15 16 17 4 5 0 18 d 4 5 15 16 17 0 "
+                + "19 -1 2 4 0 6 7 0 19 d 6 7 0 20 -1 2 0 19 8 9 0 20 d 8 9 19 0 "
+                + "21 -1 -2 4 0 10 11 0 21 d 10 11 0 22 0 18 20 21 12 13 0");
+        check.same("the ways", Check.ways(y), "2102011111");
+    }
+
+    /**
+     * The clause 20, 3 1, is spared by a candidate with two other literals that are true, for two
+     * reasons. The first one in the candidate's order tells what is needed.
+     */
+    private static void theFirstTrueOne(Check check) {
+        StringBuilder formula = new StringBuilder("p cnf 6 18 1 2 0 1 4 0");
+        for (String some : new String[] {"1 2 -4", "1 -2 4", "1 -2 -4", "-1"}) {
+            for (String more : new String[] {"5 6", "5 -6", "-5 6", "-5 -6"}) {
+                formula.append(" ").append(some).append(" ").append(more).append(" 0");
+            }
+        }
+        String rest = " 0 3 1 0 d 1 2 0 d 4 1 0 -1 5 0 -1 0 1 -2 -4 5 0 1 -2 -4 0 1 -2 4 5 0 "
+                + "1 -2 0 1 2 -4 5 0";
+        StreamRefuter x = Check.with(formula.toString(), "-3 2 4" + rest);
+        check.same("refute()", x.refute(), 10);
+        check.same("the first tokens", Check.record(x).startsWith(
+                "18 d 2 0 19 -3 2 4 0 0 20 3 1 0 1 -19 0 20 d 1 0 21 -1 5 0 15 16 0 "), true);
+        StreamRefuter y = Check.with(formula.toString(), "-3 4 2" + rest);
+        check.same("refute()", y.refute(), 10);
+        check.same("the first tokens", Check.record(y).startsWith(
+                "18 d 1 0 19 -3 4 2 0 0 20 3 1 0 2 -19 0 20 d 2 0 21 -1 5 0 15 16 0 "), true);
+        check.same("judge()", x.judge() > 0 && y.judge() > 0, true);
+    }
+
+    private static String formulaOfThirteen() {
+        StringBuilder formula = new StringBuilder("p cnf 5 13 1 2 0");
+        for (String two : new String[] {"1 -2", "-1 2", "-1 -2"}) {
+            for (String more : new String[] {"4 5", "4 -5", "-4 5", "-4 -5"}) {
+                formula.append(" ").append(two).append(" ").append(more).append(" 0");
+            }
+        }
+        return formula.toString();
     }
 
     /** With 63 clauses the empty one is number 64. */
