@@ -3,6 +3,9 @@ import java.util.concurrent.Callable;
 /** Counts wrong answers, and helps to feed texts. */
 final class Check {
     private final String name;
+    private String sentence = "";
+    private int sentences = 0;
+    private int askedBefore = 0;
     private int wrong = 0;
     private int asked = 0;
 
@@ -10,12 +13,29 @@ final class Check {
         this.name = name;
     }
 
+    /** Quotes the sentence of the document, or the part of one, that the next answers are about. */
+    void about(String quoted) {
+        closeSentence();
+        sentence = quoted;
+        sentences++;
+        askedBefore = asked;
+    }
+
+    /** A sentence about which nothing was asked has no test. */
+    private void closeSentence() {
+        if (sentences > 0 && asked == askedBefore) {
+            wrong++;
+            System.out.println(name + ": nothing was asked about \"" + sentence + "\"");
+        }
+    }
+
     void same(String what, Object got, Object due) {
         asked++;
         if (!due.equals(got)) {
             wrong++;
             if (wrong <= 20) {
-                System.out.println(name + ": " + what + " answered " + got + ", due is " + due);
+                System.out.println(name + ": " + what + " answered " + got + ", due is " + due
+                        + (sentence.isEmpty() ? "" : " (\"" + sentence + "\")"));
             }
         }
     }
@@ -40,7 +60,9 @@ final class Check {
 
     /** Ends the program with exit code 1 if an answer was wrong, or nothing was asked. */
     void finish() {
-        System.out.println(name + ": " + asked + " answers, " + wrong + " wrong");
+        closeSentence();
+        System.out.println(name + ": " + asked + " answers" + (sentences == 0 ? ""
+                : " about " + sentences + " sentences") + ", " + wrong + " wrong");
         if (wrong > 0 || asked == 0) {
             System.exit(1);
         }
@@ -96,9 +118,10 @@ final class Check {
     /** The tokens of the record, with blanks between and d for DROP. */
     static String record(StreamRefuter x) {
         StringBuilder row = new StringBuilder();
-        for (int i = 0; i < x.tokens(); i++) {
-            row.append(i == 0 ? "" : " ");
-            row.append(x.token(i) == StreamRefuter.DROP ? "d" : String.valueOf(x.token(i)));
+        int many = x.tokens();
+        for (int i = 0; i < many; i++) {
+            int v = x.token(i);
+            row.append(i == 0 ? "" : " ").append(v == StreamRefuter.DROP ? "d" : String.valueOf(v));
         }
         return row.toString();
     }

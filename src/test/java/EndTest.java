@@ -1,56 +1,94 @@
-/** Promise 10, and what TIME and PROPAGATION say for it. */
+/** Promise 10, and what PROPAGATION and THE END say. */
 public final class EndTest {
+    private static final String SQUARE = "p cnf 2 4 1 2 0 -1 2 0 1 -2 0 -1 -2 0";
+
     public static void main(String[] args) {
         Check check = new Check("EndTest");
-        String square = "p cnf 2 4 1 2 0 -1 2 0 1 -2 0 -1 -2 0";
-        String[][] runs = {
-            // conflicts of the formula alone
-            {"p cnf 1 2 1 0 -1 0", "", "0"},
-            {"p cnf 1 2 1 0 -1 0", "0 1 0", "0"},
-            {"p cnf 1 1 0", "", "0"},
-            {"p cnf 3 4 1 0 -1 2 0 -2 3 0 -3 -1 0", "", "0"},
-            // propagation does not guess
-            {square, "", "-1"},
-            {"p cnf 1 0", "", "-1"},
-            {"p cnf 2 0", "1 0 -2 0 1 2 0", "-1"},
-            // the least number of steps, whatever the steps are worth
-            {square, "2 0", "1"},
-            {square, "1 2 0 2 0 1 0", "2"},
-            {"p cnf 1 0", "1 0 -1 0 0", "2"},
-            {"p cnf 1 0", "0 d 0", "1"},
-            {"p cnf 1 0", "d 0 0", "2"},
-            // deletions
-            {"p cnf 1 1 1 0", "d 1 0 -1 0", "-1"},
-            {"p cnf 1 1 1 0", "-1 0 d 1 0", "1"},
-            {"p cnf 1 1 1 0", "d -1 0 -1 0", "2"},
-            {"p cnf 1 1 1 0", "d 1 0 1 0 -1 0", "3"},
-            {"p cnf 2 2 1 2 0 -1 0", "d 1 0 -2 0", "2"},
-            {"p cnf 3 2 1 2 0 -1 0", "d 1 2 3 0 -2 0", "2"},
-            {"p cnf 2 3 1 2 0 2 1 0 -1 0", "d 2 1 0 -2 0", "2"},
-            {"p cnf 2 3 1 2 0 2 1 0 -1 0", "d 2 1 0 d 2 1 0 -2 0", "-1"},
-            {"p cnf 2 3 1 2 0 2 1 0 -1 0", "d 2 1 0 d 1 2 0 d 1 2 0 -2 0 2 1 0", "5"},
-            {"p cnf 3 2 3 1 2 0 -1 0", "d 2 3 1 0 -2 0 -3 0", "-1"},
-            {"p cnf 2 1 1 0", "2 0 d 2 0 -2 0 d 1 0 2 0", "5"},
-        };
-        for (String[] run : runs) {
-            StreamRefuter x = Check.with(run[0], run[1]);
-            String what = "end() of " + run[0] + " with " + run[1];
-            check.same(what, x.end(), Integer.parseInt(run[2]));
-            check.same(what + " again", x.end(), Integer.parseInt(run[2]));
-        }
-        StreamRefuter x = Check.with(square);
-        check.refuses("end() without a stream", "IllegalStateException", x::end);
+        ready(check);
+        leastNumber(check);
+        none(check);
         longChain(check);
+        withoutStream(check);
         check.finish();
     }
 
-    /** All sixteen variables become true, the last conflict coming behind them. */
+    private static void ends(Check check, String... triples) {
+        for (int i = 0; i < triples.length; i += 3) {
+            StreamRefuter x = Check.with(triples[i], triples[i + 1]);
+            String what = "end() of " + triples[i] + " with " + triples[i + 1];
+            check.same(what, String.valueOf(x.end()), triples[i + 2]);
+            check.same(what + " again", String.valueOf(x.end()), triples[i + 2]);
+        }
+    }
+
+    private static void ready(Check check) {
+        check.about("A clause is READY when none of its literals is true and at most one of them "
+                + "is not false.");
+        ends(check, "p cnf 3 4 1 0 -1 2 0 -2 3 0 -3 -1 0", "", "0",
+                "p cnf 3 4 1 0 -1 2 0 -2 3 0 -3 1 0", "", "-1",
+                "p cnf 3 4 1 2 0 -1 2 0 -2 3 0 -2 -3 0", "", "-1",
+                // two literals that are not false are one too many
+                "p cnf 3 3 1 0 -1 2 3 0 -2 0", "-3 0", "1",
+                "p cnf 3 2 1 0 -1 2 3 0", "-2 -3 0", "-1",
+                // and one that is true is, too
+                "p cnf 3 2 1 0 1 2 0", "-2 0", "-1", "p cnf 3 2 -1 0 1 2 0", "-2 0", "1");
+    }
+
+    private static void leastNumber(Check check) {
+        check.about("THE END is the least number of steps, 0 perhaps, after which propagation by "
+                + "all alive clauses, with no literals true at first, comes to a conflict.");
+        ends(check, "p cnf 1 2 1 0 -1 0", "", "0", "p cnf 1 2 1 0 -1 0", "0 1 0", "0",
+                "p cnf 1 1 0", "", "0", SQUARE, "2 0", "1", SQUARE, "1 2 0 2 0 1 0", "2",
+                SQUARE, "d 1 0 2 0 d 2 0", "2",
+                // whatever the steps are worth, and whatever comes behind them
+                "p cnf 1 0", "1 0 -1 0 0", "2", "p cnf 1 0", "0 d 0", "1",
+                "p cnf 1 1 1 0", "-1 0 d 1 0", "1",
+                "p cnf 1 0", "d 1 0 ".repeat(78) + "1 0 -1 0", "80",
+                "p cnf 1 1 1 0", "d -1 0 ".repeat(79) + "-1 0", "80");
+    }
+
+    private static void none(Check check) {
+        check.about("There may be none.");
+        ends(check, "p cnf 1 0", "", "-1", SQUARE, "", "-1", "p cnf 2 0", "1 0 -2 0 1 2 0", "-1",
+                "p cnf 1 1 1 0", "d 1 0 -1 0", "-1",
+                "p cnf 1 0", "1 0 d 1 0 -1 0 d -1 0 ".repeat(20), "-1");
+        check.about("The END; NONE if there is none.");
+        check.same("end()", Check.with(SQUARE, "").end(), StreamRefuter.NONE);
+        check.same("end() that is 0", Check.with("p cnf 1 1 0", "").end(), 0);
+    }
+
+    /** All sixteen variables become true, the conflict coming behind them. */
     private static void longChain(Check check) {
+        check.about("As long as there are ready clauses");
         StringBuilder row = new StringBuilder("p cnf 16 17 -16 -1 0 ");
         for (int v = 15; v >= 1; v--) {
             row.append(-v).append(' ').append(v + 1).append(" 0 ");
         }
         StreamRefuter x = Check.with(row + "1 2 0", "d 1 2 0 1 0");
         check.same("end() of a chain", x.end(), 2);
+        // Sixteen reasons, and the conflict with a seventeenth clause.
+        StringBuilder units = new StringBuilder("p cnf 16 17");
+        for (int v = 1; v <= 16; v++) {
+            units.append(" ").append(v).append(" 0");
+        }
+        StreamRefuter y = Check.with(units + " -11 -12 -13 -14 -15 -16 0", "");
+        check.same("end() with all variables true", y.end(), 0);
+        check.same("refute()", y.refute(), 1);
+        check.same("the record", Check.record(y),
+                "17 d 1 2 3 4 5 6 7 8 9 10 0 18 0 11 12 13 14 15 16 17 0");
+    }
+
+    private static void withoutStream(Check check) {
+        check.about("IllegalStateException when there is no stream.");
+        check.refuses("end() of a new object", "IllegalStateException",
+                () -> new StreamRefuter().end());
+        StreamRefuter x = Check.with("p cnf 1 1 0");
+        check.refuses("end() with a formula alone", "IllegalStateException", x::end);
+        Reading.stream(x, "x");
+        check.refuses("end() behind a stream with a fault", "IllegalStateException", x::end);
+        Reading.stream(x, "");
+        check.same("end() with an empty stream", x.end(), 0);
+        Reading.formula(x, "p cnf 1 1 0");
+        check.refuses("end() behind a new formula", "IllegalStateException", x::end);
     }
 }

@@ -9,6 +9,15 @@
 public final class FullTest {
     public static void main(String[] args) {
         Check check = new Check("FullTest");
+        moreThan2000(check);
+        keepsTheOld(check);
+        failsBefore(check);
+        theLastToken(check);
+        check.finish();
+    }
+
+    private static void moreThan2000(Check check) {
+        check.about("otherwise FULL, when the record would have more than 2000 tokens");
         int[] due = {38, 38, StreamRefuter.FULL, StreamRefuter.FULL};
         int[] tokens = {1996, 2000, 0, 0};
         for (int copies = 0; copies < due.length; copies++) {
@@ -20,31 +29,58 @@ public final class FullTest {
             check.same("marked(1)", x.marked(1), tokens[copies] > 0);
             check.same("way(1)", x.way(1), tokens[copies] > 0 ? 2 : 0);
         }
-        keepsTheOld(check);
-        theLastToken(check);
-        check.finish();
     }
 
     private static void keepsTheOld(Check check) {
+        check.about("Without changing anything");
         StreamRefuter x = Check.with(formula(2), stream());
-        Check.put(x, "5 0 1 0");
-        x.record();
+        String before = Reading.state(x);
         check.same("refute()", x.refute(), StreamRefuter.FULL);
-        check.same("the record stays", Check.record(x), "5 0 1 0");
+        check.same("all as before", Reading.state(x), before);
+        StreamRefuter y = Check.with(formula(2), stream());
+        Reading.record(y, "5 0 1 0 6 d 1 0");
+        y.alter(0, 7);
+        check.same("refute()", y.refute(), StreamRefuter.FULL);
+        check.same("the record stays", Check.record(y), "7 0 1 0 6 d 1 0");
+        check.same("judge()", y.judge(), -1);
+        check.same("fault()", y.fault(), 0);
+        check.same("refute() again", y.refute(), StreamRefuter.FULL);
+        check.same("the record stays", Check.record(y), "7 0 1 0 6 d 1 0");
+        check.same("marks", Check.marks(y), "");
+    }
+
+    /** A clause of the formula is added by the first step instead: a wrong one, and a right one. */
+    private static void failsBefore(Check check) {
+        check.about("-k when it fails at step k; otherwise FULL");
+        String[] moved = {" -12 13 0", " -12 -13 14 0", " -1 -12 -5 -7 0"};
+        int[] due = {-1, -1, StreamRefuter.FULL};
+        for (int i = 0; i < moved.length; i++) {
+            String rest = formula(3).replaceFirst("26", "25").replaceFirst(moved[i], "");
+            StreamRefuter x = Check.with(rest, moved[i] + " " + stream());
+            check.same("refute() with" + moved[i] + " moved", x.refute(), due[i]);
+            check.same("forward() with" + moved[i] + " moved", x.forward(), due[i] == -1 ? 1 : 0);
+            check.same("tokens()", x.tokens(), 0);
+        }
     }
 
     private static void theLastToken(Check check) {
+        check.about("Token i of the record (from 0); 0 if there is none.");
         StreamRefuter x = Check.with(formula(1), stream());
         x.refute();
-        String record = Check.record(x);
-        check.same("refute() again", x.refute(), 38);
-        check.same("the record again", Check.record(x), record);
+        check.same("token(0)", x.token(0), 24);
+        check.same("token(1)", x.token(1), StreamRefuter.DROP);
         check.same("token(1998)", x.token(1998) > 0, true);
+        check.same("token(1999)", x.token(1999), 0);
         check.same("token(2000)", x.token(2000), 0);
+        check.about("False, changing nothing, if there is none");
         check.same("alter(2000, 1)", x.alter(2000, 1), false);
+        check.same("tokens()", x.tokens(), 2000);
         check.same("alter(1999, 1)", x.alter(1999, 1), true);
         check.same("token(1999)", x.token(1999), 1);
-        check.same("judge()", x.judge() < 0, true);
+        check.same("judge() of a line without an end", x.judge() < 0, true);
+        check.same("refute() again", x.refute(), 38);
+        check.same("token(1999) again", x.token(1999), 0);
+        check.same("tokens() again", x.tokens(), 2000);
     }
 
     private static String formula(int copies) {
