@@ -7,6 +7,7 @@ final class Check {
     private int sentences = 0;
     private int askedBefore = 0;
     private int wrong = 0;
+    private int wrongBefore = 0;
     private int asked = 0;
 
     Check(String name) {
@@ -19,6 +20,7 @@ final class Check {
         sentence = quoted;
         sentences++;
         askedBefore = asked;
+        wrongBefore = wrong;
     }
 
     /** A sentence about which nothing was asked has no test. */
@@ -33,7 +35,7 @@ final class Check {
         asked++;
         if (!due.equals(got)) {
             wrong++;
-            if (wrong <= 20) {
+            if (wrong - wrongBefore <= 5) {
                 System.out.println(name + ": " + what + " answered " + got + ", due is " + due
                         + (sentence.isEmpty() ? "" : " (\"" + sentence + "\")"));
             }

@@ -15,13 +15,6 @@ public final class DeletionTest {
         check.finish();
     }
 
-    private static void ends(Check check, String formula, String... pairs) {
-        for (int i = 0; i < pairs.length; i += 2) {
-            check.same("end() of " + formula + " with " + pairs[i],
-                    String.valueOf(Check.with(formula, pairs[i]).end()), pairs[i + 1]);
-        }
-    }
-
     private static void refutes(Check check, String formula, String stream, String record) {
         StreamRefuter x = Check.with(formula, stream);
         check.same("refute() of " + formula + " with " + stream, x.refute() > 0, true);
@@ -30,27 +23,27 @@ public final class DeletionTest {
 
     private static void aliveAtFirst(Check check) {
         check.about("Before the first step the clauses of the formula are ALIVE.");
-        ends(check, "p cnf 1 2 1 0 -1 0", "", "0", "d 1 0", "0", "d 1 0 d -1 0 1 0", "0");
-        ends(check, "p cnf 1 1 1 0", "-1 0", "1");
-        ends(check, "p cnf 1 0", "-1 0", "-1");
+        Reading.ends(check, "p cnf 1 2 1 0 -1 0", "", "0", "d 1 0", "0", "d 1 0 d -1 0 1 0", "0");
+        Reading.ends(check, "p cnf 1 1 1 0", "-1 0", "1");
+        Reading.ends(check, "p cnf 1 0", "-1 0", "-1");
     }
 
     private static void additions(Check check) {
         check.about("An addition makes its clause alive.");
-        ends(check, "p cnf 2 1 -2 0", "1 0 2 0", "2", "2 0", "1", "1 0 1 0 2 0", "3", "1 0", "-1");
+        Reading.ends(check, "p cnf 2 1 -2 0", "1 0 2 0", "2", "2 0", "1", "1 0 1 0 2 0", "3", "1 0", "-1");
         // One that is added again is a clause of its own, and alive again.
-        ends(check, "p cnf 2 1 -2 0", "d 2 0 2 0", "2", "1 2 0 d 2 1 0 1 2 0 -1 0", "4",
+        Reading.ends(check, "p cnf 2 1 -2 0", "d 2 0 2 0", "2", "1 2 0 d 2 1 0 1 2 0 -1 0", "4",
                 "1 2 0 d 2 1 0 -1 0 2 1 0", "4");
     }
 
     private static void oneClause(Check check) {
         check.about("A deletion makes one clause alive no more");
-        ends(check, "p cnf 1 1 1 0", "d 1 0 -1 0", "-1", "-1 0 d 1 0", "1");
-        ends(check, "p cnf 1 2 1 0 1 0", "d 1 0 -1 0", "2", "d 1 0 d 1 0 -1 0", "-1");
-        ends(check, "p cnf 1 0", "1 0 1 0 1 0 d 1 0 d 1 0 -1 0", "6",
+        Reading.ends(check, "p cnf 1 1 1 0", "d 1 0 -1 0", "-1", "-1 0 d 1 0", "1");
+        Reading.ends(check, "p cnf 1 2 1 0 1 0", "d 1 0 -1 0", "2", "d 1 0 d 1 0 -1 0", "-1");
+        Reading.ends(check, "p cnf 1 0", "1 0 1 0 1 0 d 1 0 d 1 0 -1 0", "6",
                 "1 0 1 0 1 0 d 1 0 d 1 0 d 1 0 -1 0", "-1");
         // Not one of the other clauses: 1 2 would not do without -1, nor -1 without 1 2.
-        ends(check, "p cnf 3 3 1 2 0 -1 0 3 0", "d 3 0 -2 0", "2", "d -1 0 -2 0", "-1",
+        Reading.ends(check, "p cnf 3 3 1 2 0 -1 0 3 0", "d 3 0 -2 0", "2", "d -1 0 -2 0", "-1",
                 "d 1 2 0 -2 0", "-1");
     }
 
@@ -79,9 +72,9 @@ public final class DeletionTest {
                 forth.append(six[(turn + k) % 6]).append(" ");
                 back.append(six[(turn + 6 - k) % 6]).append(" ");
             }
-            ends(check, formula, forth + "0 6 0", "-1", back + "0 6 0", "-1");
+            Reading.ends(check, formula, forth + "0 6 0", "-1", back + "0 6 0", "-1");
         }
-        ends(check, formula, "6 0", "1", "d 1 -2 3 -4 5 6 0 6 0", "2");
+        Reading.ends(check, formula, "6 0", "1", "d 1 -2 3 -4 5 6 0 6 0", "2");
     }
 
     private static void findsNone(Check check) {
@@ -89,12 +82,12 @@ public final class DeletionTest {
         String formula = "p cnf 3 2 1 2 0 -1 0";
         for (String other : new String[] {"", "1 ", "2 ", "3 ", "1 3 ", "1 2 3 ", "-1 -2 ", "1 -2 ",
             "-1 2 ", "-2 -1 ", "1 2 -3 "}) {
-            ends(check, formula, "d " + other + "0 -2 0", "2");
+            Reading.ends(check, formula, "d " + other + "0 -2 0", "2");
         }
-        ends(check, formula, "d 1 2 0 -2 0", "-1", "d 2 1 0 -2 0", "-1");
+        Reading.ends(check, formula, "d 1 2 0 -2 0", "-1", "d 2 1 0 -2 0", "-1");
         // One that is alive no more is not found again, nor one that is added later.
-        ends(check, "p cnf 1 1 1 0", "d 1 0 d 1 0 1 0 -1 0", "4", "d -1 0 -1 0", "2");
-        ends(check, "p cnf 1 0", "d 1 0 1 0 -1 0", "3", "1 0 d 1 0 d 1 0 1 0 -1 0", "5");
+        Reading.ends(check, "p cnf 1 1 1 0", "d 1 0 d 1 0 1 0 -1 0", "4", "d -1 0 -1 0", "2");
+        Reading.ends(check, "p cnf 1 0", "d 1 0 1 0 -1 0", "3", "1 0 d 1 0 d 1 0 1 0 -1 0", "5");
         // It is a step all the same.
         StreamRefuter x = Check.with("p cnf 1 0", "d 1 0 d 0");
         check.same("way(2)", x.way(2), 0);

@@ -16,18 +16,9 @@ public final class EmptyClauseTest {
 
     private static void conflictAtOnce(Check check) {
         check.about("if it has no such literal, this is the CONFLICT with that clause");
-        String[][] runs = {
-            {"p cnf 1 1 0", "", "0"},
-            {"p cnf 2 3 1 2 0 0 1 0", "1 0", "0"},
-            {"p cnf 1 0", "0", "1"},
-            {"p cnf 1 0", "1 0 0", "2"},
-            {"p cnf 1 0", "1 0 d 1 0 0 0", "3"},
-            {"p cnf 1 0", "", "-1"},
-        };
-        for (String[] run : runs) {
-            check.same("end() of " + run[0] + " with " + run[1],
-                    String.valueOf(Check.with(run[0], run[1]).end()), run[2]);
-        }
+        Reading.ends(check, "p cnf 1 1 0", "", "0", "1 0", "0", "d 1 0", "0");
+        Reading.ends(check, "p cnf 2 3 1 2 0 0 1 0", "", "0", "1 0", "0");
+        Reading.ends(check, "p cnf 1 0", "0", "1", "1 0 0", "2", "1 0 d 1 0 0 0", "3", "", "-1");
         // It needs nothing but the clause itself, whatever was taken before it.
         StreamRefuter x = Check.with("p cnf 2 4 1 0 -1 2 0 0 0", "");
         check.same("refute()", x.refute(), 1);
@@ -37,16 +28,9 @@ public final class EmptyClauseTest {
 
     private static void deleted(Check check) {
         check.about("if there is none, it does nothing.");
-        String[][] runs = {
-            {"p cnf 1 0", "d 0 0", "2"},
-            {"p cnf 1 0", "d 0 0 d 0", "2"},
-            {"p cnf 1 1 1 0", "d 0 -1 0", "2"},
-            {"p cnf 1 1 0", "d 0", "0"},
-        };
-        for (String[] run : runs) {
-            check.same("end() of " + run[0] + " with " + run[1],
-                    String.valueOf(Check.with(run[0], run[1]).end()), run[2]);
-        }
+        Reading.ends(check, "p cnf 1 0", "d 0 0", "2", "d 0 0 d 0", "2", "0 d 0", "1");
+        Reading.ends(check, "p cnf 1 1 1 0", "d 0 -1 0", "2", "-1 0 d 0", "1");
+        Reading.ends(check, "p cnf 1 1 0", "d 0", "0");
     }
 
     private static void neverSpared(Check check) {

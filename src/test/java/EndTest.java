@@ -12,46 +12,37 @@ public final class EndTest {
         check.finish();
     }
 
-    private static void ends(Check check, String... triples) {
-        for (int i = 0; i < triples.length; i += 3) {
-            StreamRefuter x = Check.with(triples[i], triples[i + 1]);
-            String what = "end() of " + triples[i] + " with " + triples[i + 1];
-            check.same(what, String.valueOf(x.end()), triples[i + 2]);
-            check.same(what + " again", String.valueOf(x.end()), triples[i + 2]);
-        }
-    }
-
     private static void ready(Check check) {
         check.about("A clause is READY when none of its literals is true and at most one of them "
                 + "is not false.");
-        ends(check, "p cnf 3 4 1 0 -1 2 0 -2 3 0 -3 -1 0", "", "0",
-                "p cnf 3 4 1 0 -1 2 0 -2 3 0 -3 1 0", "", "-1",
-                "p cnf 3 4 1 2 0 -1 2 0 -2 3 0 -2 -3 0", "", "-1",
-                // two literals that are not false are one too many
-                "p cnf 3 3 1 0 -1 2 3 0 -2 0", "-3 0", "1",
-                "p cnf 3 2 1 0 -1 2 3 0", "-2 -3 0", "-1",
-                // and one that is true is, too
-                "p cnf 3 2 1 0 1 2 0", "-2 0", "-1", "p cnf 3 2 -1 0 1 2 0", "-2 0", "1");
+        Reading.ends(check, "p cnf 3 4 1 0 -1 2 0 -2 3 0 -3 -1 0", "", "0");
+        Reading.ends(check, "p cnf 3 4 1 0 -1 2 0 -2 3 0 -3 1 0", "", "-1");
+        Reading.ends(check, "p cnf 3 4 1 2 0 -1 2 0 -2 3 0 -2 -3 0", "", "-1");
+        // Two literals that are not false are one too many, and one that is true is, too.
+        Reading.ends(check, "p cnf 3 2 1 0 -1 2 3 0", "-2 -3 0", "-1", "-2 0 -3 0", "2");
+        Reading.ends(check, "p cnf 3 2 1 0 1 2 0", "-2 0", "-1");
+        Reading.ends(check, "p cnf 3 2 -1 0 1 2 0", "-2 0", "1");
     }
 
     private static void leastNumber(Check check) {
         check.about("THE END is the least number of steps, 0 perhaps, after which propagation by "
                 + "all alive clauses, with no literals true at first, comes to a conflict.");
-        ends(check, "p cnf 1 2 1 0 -1 0", "", "0", "p cnf 1 2 1 0 -1 0", "0 1 0", "0",
-                "p cnf 1 1 0", "", "0", SQUARE, "2 0", "1", SQUARE, "1 2 0 2 0 1 0", "2",
-                SQUARE, "d 1 0 2 0 d 2 0", "2",
-                // whatever the steps are worth, and whatever comes behind them
-                "p cnf 1 0", "1 0 -1 0 0", "2", "p cnf 1 0", "0 d 0", "1",
-                "p cnf 1 1 1 0", "-1 0 d 1 0", "1",
-                "p cnf 1 0", "d 1 0 ".repeat(78) + "1 0 -1 0", "80",
-                "p cnf 1 1 1 0", "d -1 0 ".repeat(79) + "-1 0", "80");
+        Reading.ends(check, "p cnf 1 2 1 0 -1 0", "", "0", "0 1 0", "0", "d 1 0", "0");
+        Reading.ends(check, "p cnf 1 1 0", "", "0");
+        Reading.ends(check, SQUARE, "2 0", "1", "1 2 0 2 0 1 0", "2", "d 1 0 2 0 d 2 0", "2");
+        // whatever the steps are worth, and whatever comes behind them
+        Reading.ends(check, "p cnf 1 0", "1 0 -1 0 0", "2", "0 d 0", "1",
+                "d 1 0 ".repeat(78) + "1 0 -1 0", "80");
+        Reading.ends(check, "p cnf 1 1 1 0", "-1 0 d 1 0", "1",
+                "d -1 0 ".repeat(79) + "-1 0", "80");
     }
 
     private static void none(Check check) {
         check.about("There may be none.");
-        ends(check, "p cnf 1 0", "", "-1", SQUARE, "", "-1", "p cnf 2 0", "1 0 -2 0 1 2 0", "-1",
-                "p cnf 1 1 1 0", "d 1 0 -1 0", "-1",
-                "p cnf 1 0", "1 0 d 1 0 -1 0 d -1 0 ".repeat(20), "-1");
+        Reading.ends(check, "p cnf 1 0", "", "-1", "1 0 d 1 0 -1 0 d -1 0 ".repeat(20), "-1");
+        Reading.ends(check, SQUARE, "", "-1", "1 2 0", "-1");
+        Reading.ends(check, "p cnf 2 0", "1 0 -2 0 1 2 0", "-1");
+        Reading.ends(check, "p cnf 1 1 1 0", "d 1 0 -1 0", "-1");
         check.about("The END; NONE if there is none.");
         check.same("end()", Check.with(SQUARE, "").end(), StreamRefuter.NONE);
         check.same("end() that is 0", Check.with("p cnf 1 1 0", "").end(), 0);

@@ -86,6 +86,9 @@ public final class ForwardTest {
         forwards(check, SQUARE, "2 0 -1 0", "0", SQUARE, "2 0 0 d 0", "0",
                 "p cnf 3 1 1 0", "-1 0", "1", "p cnf 3 1 1 0", "2 0 -1 0 0", "2",
                 "p cnf 3 2 1 0 -1 0", "0", "0", "p cnf 3 2 1 0 -1 0", "-1 0 0", "0",
+                // a deletion behind the end does not bring it back
+                SQUARE, "2 0 d 2 0 0", "0", SQUARE, "2 0 d 2 0 d 1 2 0 2 0", "0",
+                "p cnf 3 2 1 0 -1 0", "d 1 0 0", "0", "p cnf 1 1 0", "d 0 1 0 -1 0", "0",
                 // the first of two; deletions count as steps
                 "p cnf 3 1 1 0", "d 2 0 -1 2 0 -1 -2 0", "2",
                 "p cnf 3 2 1 0 2 0", "d 3 0 3 0 d 3 0 -1 3 0 -2 -3 0", "4",

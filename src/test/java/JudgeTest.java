@@ -84,8 +84,12 @@ public final class JudgeTest {
     private static void readyHints(Check check) {
         check.about("each must be that of a known clause that is ready, of which a literal that is "
                 + "not false becomes true");
-        judged(check, "5 2 0 3 1 2 0", "-1", "5 2 0 1 1 0", "-1", "5 3 2 0 1 2 0", "0",
-                "5 3 0 1 2 0", "-1", "5 1 2 0 1 0", "0", "5 1 2 0 2 0", "-1", "5 2 1 0 3 0", "-1");
+        judged(check, "5 1 2 0 1 0", "0", "5 3 2 0 1 2 0", "0", "5 2 0 1 2 0", "0",
+                // two of its literals are not false
+                "5 3 0 1 2 0", "-1", "5 3 0 1 4 0", "-1", "5 0 1 4 0", "-1",
+                // one is true, from the first or by another hint
+                "5 2 0 3 1 2 0", "-1", "5 1 2 0 2 0", "-1", "5 2 1 0 3 0", "-1",
+                "5 2 0 1 1 0", "-1", "5 2 0 1 1 2 0", "-1", "5 2 3 0 1 3 2 0", "-1");
     }
 
     private static void conflictLast(Check check) {
@@ -104,7 +108,7 @@ public final class JudgeTest {
         judged(check, ONE + "6 3 0 -5 1 3 0", "0", ONE + "6 3 0 0", "-2",
                 ONE + "6 3 0 -5 1 3 -5 1 3 0", "-2",
                 // others that are known, not yet known, or never
-                ONE + "6 3 0 -5 1 3 -1 0", "-2", ONE + "6 3 0 -1 -5 1 3 0", "-2",
+                ONE + "6 3 0 -4 4 0", "-2", ONE + "6 3 0 -5 1 3 -1 0", "-2", ONE + "6 3 0 -1 -5 1 3 0", "-2",
                 ONE + "6 3 0 -5 1 3 -6 0", "-2", ONE + "6 3 0 -5 1 3 -9999 0", "-2",
                 "5 2 0 1 0", "-1", "5 2 0 0", "-1", "5 3 0 -1 0", "-1", "5 3 0 -5 0", "-1",
                 // both of two, in whatever order

@@ -71,6 +71,16 @@ final class Reading {
         }
     }
 
+    /** Pairs of a stream and its end, each found by a new object. */
+    static void ends(Check check, String formula, String... pairs) {
+        for (int i = 0; i < pairs.length; i += 2) {
+            StreamRefuter x = Check.with(formula, pairs[i]);
+            String what = "end() of '" + formula + "' with '" + pairs[i] + "'";
+            check.same(what, String.valueOf(x.end()), pairs[i + 1]);
+            check.same(what + " again", String.valueOf(x.end()), pairs[i + 1]);
+        }
+    }
+
     /** All that can be asked of an object, but for fault(), and the text, which only wipe() tells. */
     static String state(StreamRefuter x) {
         StringBuilder row = new StringBuilder("clauses " + x.clauses() + ":");

@@ -62,7 +62,12 @@ public final class RefuteTest {
         }
         writes(check, "p cnf 3 2 1 0 -1 0", "0 -1 0 d 1 0", "3 0 1 2 0");
         check.about("and if that clause is marked");
-        writes(check, SQUARE, "-1 -3 0 2 0", "6 2 0 1 2 0 6 d 1 2 0 7 0 6 3 4 0");
+        // The first step is wrong, as forward() finds, but its clause is not marked.
+        String formula = "p cnf 6 8 -1 3 4 0 -1 3 -4 0 -1 -3 4 0 -1 -3 -4 0 1 5 6 0 1 5 -6 0 "
+                + "1 -5 6 0 1 -5 -6 0";
+        writes(check, formula, "-1 2 0 -1 3 0 -1 0 1 5 0", "10 -1 3 0 1 2 0 10 d 1 2 0 "
+                + "11 -1 0 10 3 4 0 11 d 3 4 10 0 12 1 5 0 5 6 0 12 d 5 6 0 13 0 11 12 7 8 0");
+        check.same("forward()", Check.with(formula, "-1 2 0 -1 3 0 -1 0 1 5 0").forward(), 1);
     }
 
     private static void goneBack(Check check) {
@@ -130,6 +135,10 @@ public final class RefuteTest {
         writes(check, "p cnf 6 7 -5 2 0 5 -2 -4 0 3 4 0 4 -3 -6 0 -5 -2 0 6 -3 0 2 5 -4 0",
                 "6 0 5 0", "8 6 0 6 3 -4 0 8 d 6 0 9 5 0 8 -1 7 3 4 -5 2 3 4 0 9 d 2 3 4 7 8 0 "
                 + "10 0 9 1 5 0");
+        // Of clause 5, -3 -1 5, both -3 and 5 are true, for the reasons 4 and 6.
+        writes(check, "p cnf 5 7 -2 -4 0 2 4 0 2 -4 0 1 -3 0 -3 -1 5 0 3 5 0 -2 4 0",
+                "1 0 3 0 -5 4 0", "8 1 0 4 -5 0 8 d 4 0 9 3 0 6 -5 0 9 d 6 0 10 -5 4 0 2 7 0 "
+                + "10 d 2 7 0 11 0 8 9 5 10 1 3 0");
     }
 
     private static void unmarkedOfTheFormula(Check check) {

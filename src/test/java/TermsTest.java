@@ -1,3 +1,5 @@
+import java.util.Arrays;
+
 /** The section 'Terms': the limits of variables, literals, clauses, bytes, words and numbers. */
 public final class TermsTest {
     private static final int[] SEVEN_PACKED = {97, 2, 5, 6, 9, 10, 13, 14, 0};
@@ -85,7 +87,7 @@ public final class TermsTest {
             check.same("six packed, and a step's byte",
                     Reading.packed(Check.with(alone), seven), "fault 9");
             check.same("six packed", Reading.packed(Check.with(alone),
-                    java.util.Arrays.copyOf(seven, 8)), "1");
+                    Arrays.copyOf(seven, 8)), "1");
         }
         StreamRefuter x = Check.with("p cnf 16 1 " + six + "0", six + "0");
         check.same("literal(1, 5)", x.literal(1, 5), -6);
