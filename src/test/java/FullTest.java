@@ -29,6 +29,10 @@ public final class FullTest {
             check.same("marked(1)", x.marked(1), tokens[copies] > 0);
             check.same("way(1)", x.way(1), tokens[copies] > 0 ? 2 : 0);
         }
+        StreamRefuter y = Check.with(wideFormula(), wideStream());
+        check.same("forward() of many more than 2000", y.forward(), 0);
+        check.same("refute() of many more than 2000", y.refute(), StreamRefuter.FULL);
+        check.same("marks of many more than 2000", Check.marks(y), "");
     }
 
     private static void keepsTheOld(Check check) {
@@ -61,6 +65,9 @@ public final class FullTest {
             check.same("forward() with" + moved[i] + " moved", x.forward(), due[i] == -1 ? 1 : 0);
             check.same("tokens()", x.tokens(), 0);
         }
+        String rest = wideFormula().replaceFirst("31", "30").replaceFirst(moved[0], "");
+        StreamRefuter y = Check.with(rest, moved[0] + " " + wideStream());
+        check.same("refute() of many more than 2000", y.refute(), -1);
     }
 
     private static void theLastToken(Check check) {
@@ -113,5 +120,29 @@ public final class FullTest {
         }
         row.append("d -12 -16 2 0 1 2 -3 -4 0 1 2 -3 0 1 2 3 -4 0 1 2 0 ");
         return row.append("-1 -12 -5 0 -1 -12 0 12 0").toString();
+    }
+
+    /** Twenty clauses with -1, so that the groups alone are more than 2000 tokens. */
+    private static String wideFormula() {
+        StringBuilder row = new StringBuilder("p cnf 16 31");
+        for (String signs : new String[] {" -5 -11 ", " -5 11 ", " 5 -11 ", " 5 11 "}) {
+            for (int z = 6; z <= 10; z++) {
+                row.append(" -1 -12").append(signs).append(-z).append(" 0");
+            }
+        }
+        row.append(" -6 -7 -8 -9 -10 0 6 7 8 9 10 0");
+        row.append(" -12 13 0 -12 -13 14 0 -12 -14 15 0 -12 -15 16 0 -12 -16 2 0");
+        return row.append(" 12 5 0 12 -5 0 -2 5 0 -2 -5 0").toString();
+    }
+
+    private static String wideStream() {
+        StringBuilder row = new StringBuilder("1 2 -3 -4 6 10 0 1 2 -3 -4 6 -10 0 ");
+        for (String signs : new String[] {"-3 -4 ", "-3 4 ", "3 -4 ", "3 4 "}) {
+            for (int z = 6; z <= 10; z++) {
+                row.append("1 2 ").append(signs).append(z).append(" 0 ");
+            }
+        }
+        row.append("d -12 -16 2 0 1 2 -3 -4 0 1 2 -3 0 1 2 3 -4 0 1 2 0 ");
+        return row.append("-1 -12 5 11 0 -1 -12 5 0 -1 -12 -5 11 0 -1 -12 0 12 0").toString();
     }
 }

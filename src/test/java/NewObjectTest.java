@@ -7,6 +7,7 @@ public final class NewObjectTest {
         noStream(check);
         noTokens(check);
         constants(check);
+        manyCalls(check);
         apart(check);
         check.finish();
     }
@@ -67,6 +68,30 @@ public final class NewObjectTest {
         check.same("NONE", StreamRefuter.NONE, -1);
         check.about("public static final int FULL = -1000;");
         check.same("FULL", StreamRefuter.FULL, -1000);
+    }
+
+    /** Sixteen calls, 32 times over: the last of them are answered as the first ones are. */
+    private static void manyCalls(Check check) {
+        check.about("An object is used for at most 512 calls after it has been made");
+        StreamRefuter x = new StreamRefuter();
+        for (int turn = 0; turn < 32; turn++) {
+            check.same("wipe()", x.wipe(), turn == 0 ? 0 : 4);
+            check.same("feed(8)", x.feed(8, 0x203120666e632070L), true);
+            check.same("feed(6)", x.feed(6, 0x302031203120L), true);
+            check.same("formula()", x.formula(), 1);
+            check.same("wipe()", x.wipe(), 14);
+            check.same("feed(4)", x.feed(4, 0x3020312dL), true);
+            check.same("stream(false)", x.stream(false), 1);
+            check.same("clauses()", x.clauses(), 2);
+            check.same("literal(2, 0)", x.literal(2, 0), -1);
+            check.same("end()", x.end(), 1);
+            check.same("forward()", x.forward(), 1);
+            check.same("refute()", x.refute(), -1);
+            check.same("tokens()", x.tokens(), 0);
+            check.refuses("record()", "IllegalArgumentException", x::record);
+            check.same("fault()", x.fault(), 5);
+            check.same("judge()", x.judge(), 0);
+        }
     }
 
     /** Two objects have nothing in common. */
