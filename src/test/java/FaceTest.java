@@ -20,6 +20,7 @@ public final class FaceTest {
         methods(check);
         otherMembers(check);
         nestedClasses(check);
+        sizes(check);
         source(check);
         check.finish();
     }
@@ -97,6 +98,28 @@ public final class FaceTest {
                 check.same(field + " is no changing static", Modifier.isStatic(field.getModifiers())
                         && !Modifier.isFinal(field.getModifiers()), false);
             }
+        }
+    }
+
+    /** Rule 11: parameters, classes, and fields beside the constants. */
+    private static void sizes(Check check) {
+        Class<?>[] inside = StreamRefuter.class.getDeclaredClasses();
+        check.same("twelve classes at most", inside.length + 1 <= 12, true);
+        sizesOf(check, StreamRefuter.class);
+        for (Class<?> one : inside) {
+            sizesOf(check, one);
+        }
+    }
+
+    private static void sizesOf(Check check, Class<?> one) {
+        int fields = 0;
+        for (Field field : one.getDeclaredFields()) {
+            fields += Modifier.isStatic(field.getModifiers()) ? 0 : 1;
+        }
+        check.same(one + " has twenty fields at most", fields <= 20, true);
+        for (Method method : one.getDeclaredMethods()) {
+            check.same(method + " has seven parameters at most", method.getParameterCount() <= 7,
+                    true);
         }
     }
 
